@@ -1222,7 +1222,16 @@ public final class ConvoyTown {
             tick++;
         }
 
-        /** A TICK without the cross streets; TICKS in which nothing can move are leapt over. */
+        /** A TICK without the cross streets. */
+        void moveOn() {
+            moveCars();
+            tick++;
+        }
+
+        /**
+         * A TICK without the cross streets; those in which nothing can move are leapt over. WHY may
+         * change in them (of two that hold a CAR another may be the first): it isn't to be asked.
+         */
         void goOnQuietly(int limit) {
             moveCars();
             tick++;
@@ -1260,10 +1269,17 @@ public final class ConvoyTown {
             if (isHopeless()) {
                 return NONE;
             }
-            while (tick < limit && out < plan.cars) {
+            while (tick < limit && out < plan.cars && !isTooLate(limit)) {
                 goOnQuietly(limit);
             }
             return out >= plan.cars ? tick : NONE;
+        }
+
+        /** Whether the last CAR can't be OUT by the limit, even if nothing holds it any more. */
+        boolean isTooLate(int limit) {
+            int last = town.cars - 1;
+            int ticks = limit - Math.max(tick, town.start);
+            return last >= 0 && tailOf(last) + town.speed * ticks < town.length;
         }
 
         /** Whether there is a SECTION that some CROSSING never lets in: then there is no END. */
@@ -1570,7 +1586,7 @@ public final class ConvoyTown {
             if (run.isHopeless()) {
                 return NONE;
             }
-            while (run.tick < MOST_TICKS && run.out < plan.cars) {
+            while (run.tick < MOST_TICKS && run.out < plan.cars && !run.isTooLate(MOST_TICKS)) {
                 run.goOn();
             }
             return run.out >= plan.cars ? run.allWaits() : NONE;
@@ -1598,10 +1614,13 @@ public final class ConvoyTown {
         private boolean isSmooth(Run run, int tick) {
             plan.start = tick;
             run.begin(plan);
-            while (run.tick < MOST_TICKS && run.out < plan.cars && !run.stopped) {
-                run.goOnQuietly(MOST_TICKS);
+            while (run.tick < MOST_TICKS && run.out < plan.cars && !run.isTooLate(MOST_TICKS)) {
+                run.moveOn();
+                if (run.stopped) {
+                    return false;
+                }
             }
-            return run.out >= plan.cars && !run.stopped;
+            return run.out >= plan.cars;
         }
 
         int slowestFor(Town town, Run run, int n) {

@@ -130,7 +130,7 @@ public final class AgainstPlainTest {
     }
 
     public static void main(String[] args) throws Exception {
-        int runs = args.length > 0 ? Integer.parseInt(args[0]) : 60;
+        int runs = args.length > 0 ? Integer.parseInt(args[0]) : 150;
         long seed = args.length > 1 ? Long.parseLong(args[1]) : 1;
         AgainstPlainTest test = new AgainstPlainTest(seed);
         for (int i = 0; i < runs; i++) {

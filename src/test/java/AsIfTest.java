@@ -135,6 +135,10 @@ public final class AsIfTest {
         // CAR 0 starts with TICK 10, is at 30 in TICK 12: all is 10 TICKS later, 20 divides as 10 does
         checks.due("best(1, 0) behind an ACT", x.best(1, 0), 29);
         checks.due("best of one CAR", Checks.told("column 1x5;").best(2, 1), -1);
+        ConvoyTown free = Checks.told(FREE + "split 0;");
+        checks.due("best(2, 0), nothing to gain", free.best(2, 0), 12);
+        checks.due("best(2, 1), nothing to gain", free.best(2, 1), -1);
+        checks.due("best(1, 1), nothing to gain", free.best(1, 1), -1);
         // 20 meters at most: each CAR by itself
         ConvoyTown two = Checks.told("road 100;speed 10;gap 2;cross 30 wide 10 cycle 10 open 0 to 2 cars 0 serve 1;column 3x10;");
         checks.due("best(1, 0), one is not enough", two.best(1, 0), -1);
@@ -152,6 +156,12 @@ public final class AsIfTest {
         checks.due("bestStart(1, 0)", x.bestStart(1, 0), 1);
         checks.due("bestStart(60, 0), of like ones the least", x.bestStart(60, 0), 1);
         checks.due("bestStart(60, 1)", x.bestStart(60, 1), 0);
+        ConvoyTown last = Checks.told("road 100;speed 10;cross 30 wide 10 cycle 1 open 0 to 1 cars 64 serve 1;column 1x5;");
+        checks.due("HELD in TICK 64 by START 60", last.bestStart(60, 0), 0);
+        last.broken(0, 0, 60);
+        checks.due("bestStart(60, 1): HELD in 64 by all", last.bestStart(60, 1), 1);
+        last.broken(0, 60, 1);
+        checks.due("bestStart(60, 1)", last.bestStart(60, 1), 0);
         checks.due("bestStart(-1, 0)", x.bestStart(-1, 0), -3);
         checks.due("bestStart(61, 2)", x.bestStart(61, 2), -3);
         checks.due("bestStart(60, 2)", x.bestStart(60, 2), -2);
@@ -184,6 +194,16 @@ public final class AsIfTest {
             x.broken(0, 11 + i, 1);
         }
         checks.due("harm besides six", x.harm(0, 17, 3), 100003);
+        for (int i = 0; i < 6; i++) {
+            x.mended();
+        }
+        ConvoyTown two = Checks.told(FREE + "broken 0 at 0 for 1;broken 0 at 0 for 1;broken 0 at 0 for 1;"
+            + "broken 1 at 1 for 2;broken 2 at 3 for 4;broken 1 at 7 for 8;");
+        // CAR 2 stands in TICKS 0 to 6, goes on to CAR 1 in 7 to 10, stands in 11 to 14
+        checks.due("END by six", two.end(), 12 + 11);
+        checks.due("harm besides six", two.harm(2, 15, 16), 100016);
+        checks.due("harm besides six, it can't catch up", two.harm(2, 7, 8), 100004);
+        checks.due("harm besides six, it waits anyway", two.harm(2, 11, 4), 100000);
         checks.due("harm(), no END without", Checks.told(STUCK).harm(0, 0, 1), -1);
         ConvoyTown edge = Checks.told("road 1000;speed 1;column 1x1;start 999;");
         checks.due("harm(), no END with", edge.harm(0, 1500, 1), -1);
@@ -202,6 +222,17 @@ public final class AsIfTest {
         checks.due("smooth(-1)", x.smooth(-1), -3);
         checks.due("smooth(61)", x.smooth(61), -3);
         checks.due("smooth(0), nothing stops it", Checks.told(FREE + "start 50;").smooth(0), 0);
+        checks.due("smooth(60) by START 60 alone", Checks.told("road 100;speed 10;cross 30 wide 10 cycle 100 open 63 to 65 cars 0 serve 1;"
+            + "column 1x5;").smooth(60), 60);
+        checks.due("smooth(59)", Checks.told("road 100;speed 10;cross 30 wide 10 cycle 100 open 63 to 65 cars 0 serve 1;"
+            + "column 1x5;").smooth(59), -1);
+        // CAR 1 stands at 20, where the CROSSING begins, and right behind CAR 0, that is BROKEN there: as
+        // nothing moves, WHY of it is 6 in TICKS 3 to 8, 5 in 9 to 19, 6 in 20 to 22
+        ConvoyTown both = Checks.told("road 100;speed 10;gap 0;cross 20 wide 10 cycle 20 open 0 to 10 cars 0 serve 1;"
+            + "column 1x10;column 1x5;split 0;broken 0 at 3 for 20;");
+        checks.due("smooth(0), held by both", both.smooth(0), -1);
+        checks.due("held(1, 5)", both.held(1, 5), 11);
+        checks.due("held(1, 6)", both.held(1, 6), 9);
         checks.due("smooth(60), no END", Checks.told(STUCK).smooth(60), -1);
         checks.due("smooth(60), no END, no CROSSING", Checks.told("road 1000;speed 1;gap 50;column 30x30;").smooth(60), -1);
     }
@@ -237,6 +268,7 @@ public final class AsIfTest {
         checks.due("slowest(104)", x.slowest(104), 2);
         checks.due("slowest(3)", x.slowest(3), 35);
         checks.due("slowest(2)", x.slowest(2), -1);
+        checks.due("slowest(2) by 50", Checks.told("road 95;column 1x5;").slowest(2), 50);
         checks.due("slowest(0)", x.slowest(0), -1);
         checks.due("slowest(2000)", x.slowest(2000), 1);
         checks.due("slowest(-1)", x.slowest(-1), -3);
@@ -267,6 +299,18 @@ public final class AsIfTest {
             + "cross 100 wide 10 cycle 1 open 0 to 1 cars 0 serve 1;column 1x5;");
         checks.due("marshals(11)", x.marshals(11), 2);
         checks.due("marshals(12)", x.marshals(12), 1);
+        checks.due("marshals(50)", x.marshals(50), 1);
+        // 60 meters in five TICKS
+        ConvoyTown just = Checks.told("road 200;speed 10;cross 30 wide 10 cycle 1 open 0 to 1 cars 0 serve 1;"
+            + "cross 90 wide 10 cycle 1 open 0 to 1 cars 0 serve 1;column 1x5;");
+        checks.due("marshals(12), just so", just.marshals(12), 1);
+        checks.due("marshals(11)", just.marshals(11), 2);
+        // and 140 meters in thirteen from the first to the third
+        ConvoyTown three = Checks.told("road 200;speed 10;cross 30 wide 10 cycle 1 open 0 to 1 cars 0 serve 1;"
+            + "cross 100 wide 10 cycle 1 open 0 to 1 cars 0 serve 1;cross 170 wide 10 cycle 1 open 0 to 1 cars 0 serve 1;column 1x5;");
+        checks.due("three: marshals(12)", three.marshals(12), 1);
+        checks.due("three: marshals(11)", three.marshals(11), 2);
+        checks.due("three: marshals(10)", three.marshals(10), 3);
         checks.due("marshals(0)", x.marshals(0), -3);
         checks.due("marshals(51)", x.marshals(51), -3);
         checks.due("marshals(1) without CARS", Checks.told("").marshals(1), 0);
@@ -299,6 +343,47 @@ public final class AsIfTest {
         checks.due("GREAT", ConvoyTown.GREAT, -6);
     }
 
+    /** What was found AS IF holds no longer behind an ACT. */
+    private static void foundAnew(Checks checks) {
+        ConvoyTown x = Checks.told(ONE);
+        for (int round = 0; round < 2; round++) {
+            checks.due("END", x.end(), 18);
+            checks.due("held(0, 5)", x.held(0, 5), 7);
+            checks.due("held(0, 1)", x.held(0, 1), 0);
+            checks.due("longest(0)", x.longest(0), 1);
+            checks.due("marshals(1)", x.marshals(1), 1);
+            checks.due("stretch(0)", x.stretch(0), 5);
+            checks.due("best(0, 0)", x.best(0, 0), 18);
+            checks.due("smooth(10)", x.smooth(10), 7);
+            checks.due("slowest(18)", x.slowest(18), 10);
+            checks.due("price(1, 1)", x.price(1, 1), 25);
+            x.start(20);
+            checks.due("behind start(20): END", x.end(), 38);
+            checks.due("behind start(20): held(0, 5)", x.held(0, 5), 7);
+            checks.due("behind start(20): held(0, 1)", x.held(0, 1), 20);
+            checks.due("behind start(20): best(0, 0)", x.best(0, 0), 38);
+            checks.due("behind start(20): smooth(10)", x.smooth(10), 7);
+            checks.due("behind start(20): slowest(38)", x.slowest(38), 10);
+            checks.due("behind start(20): price(1, 0)", x.price(1, 0), 38);
+            x.broken(0, 0, 500);
+            x.broken(0, 500, 500);
+            x.broken(0, 1000, 500);
+            x.broken(0, 1500, 500);
+            checks.due("never: END", x.end(), -1);
+            checks.due("never: longest(0)", x.longest(0), 0);
+            checks.due("never: marshals(1)", x.marshals(1), 0);
+            checks.due("never: held(0, 2)", x.held(0, 2), 1980);
+            checks.due("never: stretch(1)", x.stretch(1), 0);
+            checks.due("never: best(0, 0)", x.best(0, 0), -1);
+            checks.due("never: bestStart(5, 0)", x.bestStart(5, 0), -1);
+            checks.due("never: smooth(10)", x.smooth(10), -1);
+            checks.due("never: slowest(2000)", x.slowest(2000), -1);
+            for (int i = 0; i < 5; i++) {
+                x.undo();
+            }
+        }
+    }
+
     public static void main(String[] args) {
         Checks checks = new Checks();
         runStays(checks);
@@ -316,6 +401,7 @@ public final class AsIfTest {
         longestHeld(checks);
         fewestMarshals(checks);
         prices(checks);
+        foundAnew(checks);
         checks.finish();
     }
 }

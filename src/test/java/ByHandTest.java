@@ -33,6 +33,8 @@ public final class ByHandTest {
         checks.due("start(999)", x.start(999), 0);
         checks.due("START", x.count(3), 999);
         checks.due("the RUN begins anew", x.count(9), 0);
+        checks.due("start(0)", x.start(0), 999);
+        x.undo();
         checks.due("start(4)", x.start(4), 999);
         checks.due("start(4) as it was", x.start(4), 4);
         checks.due("that is an ACT too", x.count(12), 3);

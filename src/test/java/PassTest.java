@@ -92,6 +92,11 @@ public final class PassTest {
         checks.due("window(0, 0, -1)", x.window(0, 0, -1), -2);
         checks.due("window(0, -2, 2)", x.window(0, -2, 2), -2);
         checks.due("window(0, -2, 0)", x.window(0, -2, 0), -3);
+        ConvoyTown whole = Checks.told("cross 0 wide 1 cycle 10 open 0 to 5 cars 0 serve 1;cross 1 wide 1 cycle 10 open 9 to 10 cars 0 serve 1;");
+        checks.due("window(0, NONE, 0)", whole.window(0, -1, 0), 200);
+        checks.due("window(1, NONE, 0)", whole.window(1, -1, 0), 200);
+        checks.due("window(1, 199, 0)", whole.window(1, 199, 0), 1999);
+        checks.due("window(1, 199, 1)", whole.window(1, 199, 1), 1);
         ConvoyTown cut = Checks.told("cross 0 wide 1 cycle 97 open 10 to 90 cars 0 serve 1;");
         // 20 cycles are 1940: the 21st begins at 1950, and is cut off at 2000
         checks.due("window(0, NONE, 0)", cut.window(0, -1, 0), 21);

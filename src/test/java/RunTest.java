@@ -110,6 +110,15 @@ public final class RunTest {
         all(checks, y, 22, new int[] {11, 66, 11, 11, -1, 11, 2, 0});
         y.go(1);
         all(checks, y, 23, new int[] {11, 77, 12, 12, -1, 11, 2, 11});
+        y.again();
+        all(checks, y, 0, new int[] {0, 0, 0, 0, -1, 0, 0, 0});
+        // HELD from above P to below its end: 30 is not above, a TAIL at 40 is not below
+        ConvoyTown edge = Checks.told("road 100;speed 5;gap 0;cross 30 wide 10 cycle 1 open 0 to 1 cars 0 serve 1;column 2x5;split 0;");
+        int[] holder = {-1, -1, -1, -1, -1, -1, -1, 0, 0, 1, -1, -1};
+        for (int t = 0; t < holder.length; t++) {
+            checks.due("HELD by, behind " + t, edge.crossing(0, 4), holder[t]);
+            edge.go(1);
+        }
         ConvoyTown z = Checks.told("cross 50 wide 1 cycle 2 open 0 to 1 cars 3 serve 4;"
             + "cross 60 wide 1 cycle 2 open 0 to 1 cars 0 serve 1;");
         z.go(13);

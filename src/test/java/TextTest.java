@@ -16,7 +16,7 @@ public final class TextTest {
         {";", 1, 0}, {"road", 1, 4}, {"road 100", 1, 8}, {"road 100 ", 1, 9}, {"road;", 1, 4}, {"road 10 0;", 1, 8},
         {"roads 10;", 1, 0}, {"Road 10;", 1, 0}, {"  Road 10;", 1, 2}, {"road x;", 1, 5}, {"road 10,", 1, 7},
         {"road 10;;", 1, 8}, {"10;", 1, 0}, {"99999;", 1, 0}, {"x;", 1, 0}, {"road\n10;", 1, 4}, {"road 10\0;", 1, 7},
-        {"roadspeed 10;", 1, 0}, {"road -10;", 1, 5}, {"road 10;" + (char) 233, 1, 8}, {"r oad 10;", 1, 0},
+        {"roadspeed 10;", 1, 0}, {"roadz 10;", 1, 0}, {"roada 10;", 1, 0}, {"road`10;", 1, 4}, {"road{10;", 1, 4}, {"road -10;", 1, 5}, {"road 10;" + (char) 233, 1, 8}, {"r oad 10;", 1, 0},
         {"road 10;road 10;", 1, 8}, {"speed 5;speed 5;", 1, 8}, {"gap 5;gap 5;", 1, 6}, {"start 5;start 5;", 1, 8},
         {"column 1x1;road 50;", 1, 11}, {"gather 5;road 50;", 1, 9}, {"column 1x1;split 0;road 50;", 1, 19},
         {"cross0wide1cycle1open0to1cars0serve1;road 9;", 1, 37}, {"column 1x1;broken 0 at 0 for 1;road 50;", 1, 31},
@@ -151,6 +151,15 @@ public final class TextTest {
         checks.due("fault(0) of no byte", x.fault(0), 0);
         checks.due("fault(1) of no byte", x.fault(1), -1);
         checks.due("no CARS", x.count(5), 0);
+        for (int i = 0; i < 2; i++) {
+            checks.due("tell(0) again", x.tell(0), 0);
+            int[] bare = {100, 10, 2, 0, 0, 0, 0, 0, 0, 0, 0, 0, 0, 0};
+            for (int what = 0; what < bare.length; what++) {
+                checks.due("bare: count(" + what + ")", x.count(what), bare[what]);
+            }
+        }
+        Checks.tell(x, "column 3x7;");
+        checks.due("no split is left", x.count(6), 1);
     }
 
     public static void main(String[] args) {
