@@ -162,6 +162,12 @@ public final class AsIfTest {
         checks.due("bestStart(60, 1): HELD in 64 by all", last.bestStart(60, 1), 1);
         last.broken(0, 60, 1);
         checks.due("bestStart(60, 1)", last.bestStart(60, 1), 0);
+        // HELD for 60 TICKS from 4 and START on; they come at 0, 63, 126: by START 60 alone none WAITS
+        ConvoyTown sixty = Checks.told("road 100;speed 10;gap 0;cross 30 wide 10 cycle 1 open 0 to 1 cars 63 serve 1;column 20x30;");
+        checks.due("bestStart(60, 0) by START 60 alone", sixty.bestStart(60, 0), 60);
+        checks.due("bestStart(60, 1)", sixty.bestStart(60, 1), 0);
+        checks.due("bestStart(59, 0)", sixty.bestStart(59, 0), 0);
+        checks.due("bestStart(59, 1)", sixty.bestStart(59, 1), 1);
         checks.due("bestStart(-1, 0)", x.bestStart(-1, 0), -3);
         checks.due("bestStart(61, 2)", x.bestStart(61, 2), -3);
         checks.due("bestStart(60, 2)", x.bestStart(60, 2), -2);
@@ -211,6 +217,10 @@ public final class AsIfTest {
         ConvoyTown sooner = Checks.told("road 101;speed 10;gap 2;gather 12;column 2x5;broken 1 at 0 for 1;");
         checks.due("END", sooner.end(), 14);
         checks.due("harm, sooner", sooner.harm(0, 0, 1), 100000 + 13 - 14);
+        checks.due("harm, behind THE END", sooner.harm(0, 100, 1), 100000);
+        ConvoyTown parted = Checks.told(STUCK + "split 1;");
+        checks.due("harm, behind THE END", parted.harm(0, 100, 1), 100000);
+        checks.due("harm, behind THE END", parted.harm(1, 100, 1), 100000);
     }
 
     private static void smooths(Checks checks) {

@@ -125,6 +125,25 @@ public final class ByHandTest {
         checks.due("BROKEN", x.count(8), 0);
         checks.due("undo() of split", x.undo(), 0);
         checks.due("SECTIONS", x.count(6), 1);
+        x.broken(1, 3, 4);
+        x.mended();
+        for (int i = 0; i < 9; i++) {
+            x.start(0);
+        }
+        for (int i = 9; i > 0; i--) {
+            checks.due("undo() of start", x.undo(), i);
+        }
+        checks.due("undo() of mended, the oldest", x.undo(), 0);
+        checks.due("BROKEN", x.count(8), 1);
+        x.go(3);
+        checks.due("not yet", x.car(1, 3), 3);
+        x.go(4);
+        checks.due("the one that was", x.car(1, 3), 2);
+        x.go(1);
+        checks.due("no more", x.car(1, 3), 3);
+        x.again();
+        x.tell(0);
+        Checks.tell(x, THREE);
         x.split(0);
         Checks.tell(x, "road 5;");
         checks.due("a FAULT forgets no ACT", x.count(12), 1);
