@@ -307,7 +307,7 @@ public final class ConvoyTown {
             return BAD_NUMBER;
         }
         aside.begin(told);
-        while (aside.tick < n && aside.out < told.cars) {
+        for (int i = 0; i < n && aside.tick < n && aside.out < told.cars; i++) {
             aside.goOnQuietly(n);
         }
         return aside.front[car] + SHIFT;
@@ -1269,7 +1269,7 @@ public final class ConvoyTown {
             if (isHopeless()) {
                 return NONE;
             }
-            while (tick < limit && out < plan.cars && !isTooLate(limit)) {
+            for (int i = 0; i < limit && tick < limit && out < plan.cars && !isTooLate(limit); i++) {
                 goOnQuietly(limit);
             }
             return out >= plan.cars ? tick : NONE;
@@ -1426,7 +1426,7 @@ public final class ConvoyTown {
             clear();
             run.begin(town);
             seeStretch(town, run);
-            while (run.tick < MOST_TICKS && run.out < town.cars) {
+            for (int i = 0; i < MOST_TICKS && run.out < town.cars; i++) {
                 seeHeld(town, run);
                 run.goOn();
                 for (int car = 0; car < town.cars; car++) {
@@ -1586,7 +1586,7 @@ public final class ConvoyTown {
             if (run.isHopeless()) {
                 return NONE;
             }
-            while (run.tick < MOST_TICKS && run.out < plan.cars && !run.isTooLate(MOST_TICKS)) {
+            for (int i = 0; i < MOST_TICKS && run.out < plan.cars && !run.isTooLate(MOST_TICKS); i++) {
                 run.goOn();
             }
             return run.out >= plan.cars ? run.allWaits() : NONE;
@@ -1614,7 +1614,7 @@ public final class ConvoyTown {
         private boolean isSmooth(Run run, int tick) {
             plan.start = tick;
             run.begin(plan);
-            while (run.tick < MOST_TICKS && run.out < plan.cars && !run.isTooLate(MOST_TICKS)) {
+            for (int i = 0; i < MOST_TICKS && run.out < plan.cars && !run.isTooLate(MOST_TICKS); i++) {
                 run.moveOn();
                 if (run.stopped) {
                     return false;

@@ -63,6 +63,7 @@ public final class AsIfTest {
         checks.due("where(0, -1)", x.where(0, -1), -3);
         checks.due("where(0, 2001)", x.where(0, 2001), -3);
         checks.due("where(2, 0)", Checks.told(FREE).where(2, 0), 100000 - 12);
+        checks.due("from START 1 on", Checks.told(FREE + "start 1;").where(0, 2), 100010);
         ConvoyTown later = Checks.told(FREE + "start 10;broken 0 at 11 for 500;");
         int[][] slow = {{10, 0}, {11, 10}, {12, 10}, {511, 10}, {512, 20}};
         for (int[] row : slow) {
