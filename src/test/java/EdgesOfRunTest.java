@@ -234,9 +234,9 @@ public final class EdgesOfRunTest {
         // CAR 1 is 10 behind: it gets up to CAR 0 just by V meters, then no further
         goes("just V meters", Checks.told("gap 3;column 2x4;broken 1 at 0 for 1;broken 0 at 1 for 2;"), 1,
             new int[] {-7, 3, 3}, new int[] {2, 3, 6});
-        // 5 meters short of V
-        goes("as far as it can", Checks.told("speed 5;gap 3;column 2x4;broken 1 at 0 for 1;broken 0 at 1 for 2;"), 1,
-            new int[] {-7, -2, -2}, new int[] {2, 3, 6});
+        // CAR 0 gets to 15 by 5 meters, and so does CAR 1 behind it
+        goes("as far as it can", Checks.told("gap 3;cross 15 wide 1 cycle 200 open 199 to 200 cars 0 serve 1;column 2x4;"), 1,
+            new int[] {3, 8, 8}, new int[] {3, 6, 6});
         // CAR 0 is OUT behind TICK 1 with its TAIL at 15, and stays there; CAR 1 goes on over it
         goes("ahead is OUT", Checks.told("road 12;gap 0;column 2x5;"), 1,
             new int[] {5, 15, 25}, new int[] {3, 3, 3});
