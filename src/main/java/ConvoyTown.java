@@ -1363,7 +1363,9 @@ public final class ConvoyTown {
                 }
             }
             why[car] = cause;
-            stopped |= cause == WHY_CROSSING;
+            if (cause == WHY_CROSSING) {
+                stopped = true;
+            }
             if (to > now) {
                 moved = true;
                 putForward(car, section, to);
