@@ -232,6 +232,17 @@ public final class EdgesOfAsIfTest {
         taken("bestStart(n, 0)", 0, 60, -3, n -> x.bestStart(n, 0));
         taken("bestStart(60, n)", 0, 1, -2, n -> x.bestStart(60, n));
         taken("smooth(n)", 0, 60, -3, n -> x.smooth(n));
+        // THE END 2000 by START 0 alone, and 2001
+        ConvoyTown just = Checks.told("road 1000;speed 1;gap 50;column 13x26;column 1x12;start 9;");
+        ConvoyTown longer = Checks.told("road 1000;speed 1;gap 50;column 13x26;column 1x13;start 9;");
+        for (int n : new int[] {0, 1, 60}) {
+            due("END 2000: bestStart(" + n + ", 0)", just.bestStart(n, 0), 0);
+            due("END 2000: bestStart(" + n + ", 1)", just.bestStart(n, 1), 0);
+            due("END 2000: smooth(" + n + ")", just.smooth(n), 0);
+            due("END 2001: bestStart(" + n + ", 0)", longer.bestStart(n, 0), -1);
+            due("END 2001: bestStart(" + n + ", 1)", longer.bestStart(n, 1), -1);
+            due("END 2001: smooth(" + n + ")", longer.smooth(n), -1);
+        }
         due("bestStart(61, 2)", x.bestStart(61, 2), -3);
         due("bestStart(0, 0) without CARS", new ConvoyTown().bestStart(0, 0), -5);
         due("bestStart(61, 2) without CARS", new ConvoyTown().bestStart(61, 2), -5);
@@ -346,6 +357,26 @@ public final class EdgesOfAsIfTest {
         due("30 meters in 29 TICKS by 2", Checks.told(slow + "broken 0 at 5 for 27;").marshals(2), 1);
         // GUARDED from the first TICK up to the last one: by the other SECTION, that was BROKEN, once more
         due("up to the last one", Checks.told(slow + "column 1x5;split 0;broken 1 at 0 for 90;").marshals(50), 2);
+        // back to the first: HELD in TICK 2 by CAR 0 the one at 99, in TICK 21 by CAR 1 the one at 45; each goes over the other
+        String back = "road 200;speed 50;gap 3;cross 45 wide 1" + ALWAYS + "cross 99 wide 1" + ALWAYS + "column 2x1;split 0;broken 1 at 0 for 20;";
+        due("54 meters back in 18 TICKS by 3", Checks.told(back).marshals(3), 1);
+        due("54 meters back in 18 TICKS by 2", Checks.told(back).marshals(2), 2);
+        // one for ten of them: 90 meters in 8 TICKS
+        StringBuilder chain = new StringBuilder("road1000;");
+        for (int i = 0; i < 10; i++) {
+            chain.append("cross").append(90 * i + 30).append("wide10cycle1open0to1cars0serve1;");
+        }
+        due("ten in a row by 12", Checks.told(chain + "column1x5;").marshals(12), 1);
+        // 180 meters in 17 TICKS: two who go by turns; by 10 never in time
+        due("ten in a row by 11", Checks.told(chain + "column1x5;").marshals(11), 2);
+        due("ten in a row by 10", Checks.told(chain + "column1x5;").marshals(10), 10);
+        // two HELD in TICKS 4 to 6, two others in 16 to 18: 115, twice 120 and 125 meters in 9 TICKS
+        ConvoyTown two = Checks.told("road 300;cross 30 wide 5" + ALWAYS + "cross 35 wide 5" + ALWAYS + "cross 150 wide 5" + ALWAYS
+            + "cross 155 wide 5" + ALWAYS + "column 1x30;");
+        due("two and two by 50", two.marshals(50), 2);
+        due("two and two by 14", two.marshals(14), 2);
+        due("two and two by 13", two.marshals(13), 3);
+        due("two and two by 12", two.marshals(12), 4);
         // no END: HELD up to TICK 1999
         ConvoyTown never = Checks.told(slow + "column 1x5;split 0;broken 1 at 5 for 500;broken 1 at 505 for 500;"
             + "broken 1 at 1005 for 500;broken 1 at 1505 for 500;");
