@@ -377,6 +377,19 @@ public final class EdgesOfAsIfTest {
         due("two and two by 14", two.marshals(14), 2);
         due("two and two by 13", two.marshals(13), 3);
         due("two and two by 12", two.marshals(12), 4);
+        // both that are HELD in TICKS 4 to 6 can be left for the one in 16 to 18, but one is enough there
+        ConvoyTown one = Checks.told("road 300;cross 30 wide 5" + ALWAYS + "cross 35 wide 5" + ALWAYS + "cross 150 wide 5" + ALWAYS
+            + "column 1x30;");
+        due("two for one by 50", one.marshals(50), 2);
+        due("two for one by 14", one.marshals(14), 2);
+        due("two for one by 12", one.marshals(12), 3);
+        // HELD in TICK 4 at 30, in 7 at 60, in 16 at 150 and at 159: by 12 who stood at 60 can go to 150 alone,
+        // 90 meters in 8 TICKS, and who stood at 30 to both, 129 meters in 11; he has to leave 150 to the other
+        ConvoyTown other = Checks.told("road 300;speed 10;cross 30 wide 10" + ALWAYS + "cross 60 wide 10" + ALWAYS
+            + "cross 150 wide 9" + ALWAYS + "cross 159 wide 5" + ALWAYS + "column 1x5;");
+        due("one goes elsewhere, by 12", other.marshals(12), 2);
+        due("one goes elsewhere, by 11 neither can", other.marshals(11), 3);
+        due("one goes elsewhere, by 10 none can", other.marshals(10), 4);
         // no END: HELD up to TICK 1999
         ConvoyTown never = Checks.told(slow + "column 1x5;split 0;broken 1 at 5 for 500;broken 1 at 505 for 500;"
             + "broken 1 at 1005 for 500;broken 1 at 1505 for 500;");
