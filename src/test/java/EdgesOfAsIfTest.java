@@ -276,6 +276,14 @@ public final class EdgesOfAsIfTest {
         due("harm(), no END", none.harm(0, 0, 1), -1);
         due("harm(), no END, no TICK", none.harm(0, 2000, 1), -3);
         due("harm(), no END, no CAR", none.harm(30, 0, 1), -2);
+        // by going on later CAR 0 comes CLOSED to the GATHER, and CAR 1 loses no meter: END 2000 with, none without
+        String sooner = "road 1000;speed 2;gap 0;start 999;column 2x1;gather 11;broken 1 at 999 for 500;";
+        due("END none", Checks.told(sooner).end(), -1);
+        due("END by a breakdown", Checks.told(sooner + "broken 0 at 999 for 500;").end(), 2000);
+        due("harm(), no END but with it", Checks.told(sooner).harm(0, 999, 500), -1);
+        // the same a TICK ahead: END 2000 without, 1999 with
+        String both = sooner.replace("start 999", "start 998").replace("broken 1 at 999", "broken 1 at 998");
+        due("harm(), it is sooner", Checks.told(both).harm(0, 998, 500), SHIFT - 1);
         // up to 2000, and beyond
         ConvoyTown edge = Checks.told("road 1000;speed 1;start 998;column 1x1;");
         due("END", edge.end(), 1999);

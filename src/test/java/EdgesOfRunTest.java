@@ -207,6 +207,10 @@ public final class EdgesOfRunTest {
             new int[] {0, 0, 0, 0, 10}, new int[] {2, 2, 2, 2, 3});
         goes("ahead of START", Checks.told("start 2;column 1x1;broken 0 at 0 for 3;"), 0,
             new int[] {0, 0, 0, 10}, new int[] {1, 1, 2, 3});
+        String two = "gap 50;column 3x1;broken 0 at 0 for 2;broken 2 at 1 for 2;";
+        goes("two CARS at once: the head", Checks.told(two), 0, new int[] {0, 0, 10, 20}, new int[] {2, 2, 3, 3});
+        goes("two CARS at once: the last", Checks.told(two), 2, new int[] {-102, -102, -102, -92}, new int[] {6, 2, 2, 3});
+        goes("two CARS at once: the other", Checks.told(two), 1, new int[] {-51, -51, -41, -31}, new int[] {6, 6, 3, 3});
         goes("OUT by then", Checks.told("road 10;speed 50;column 1x1;broken 0 at 1 for 500;"), 0,
             new int[] {50, 50}, new int[] {3, 0});
         ConvoyTown last = Checks.told("road 1000;speed 1;gap 0;column 2x1;broken 0 at 1999 for 500;broken 1 at 0 for 500;"

@@ -256,6 +256,9 @@ public final class EdgesOfTextTest {
         // a number of five digits where none can stand
         faulty("00001;", 1, 0);
         faulty("gap 1 00001;", 1, 6);
+        // a number that is the byte of what should stand there
+        faulty("gap 1 59;", 1, 6);
+        faulty("column 1 120 1;", 1, 9);
         // a word that can't stand there, with a number that is wrong
         faulty("gaps 51;", 1, 0);
         // the end
